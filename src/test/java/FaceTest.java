@@ -59,6 +59,11 @@ public final class FaceTest {
             boolean twin = Modifier.isPrivate(method.getModifiers()) && names.contains(method.getName());
             Check.due("private " + method.getName() + " bears a public one's name", twin, false);
         }
+        for (Class<?> inside : GateNames.class.getDeclaredClasses()) {
+            for (Method method : inside.getDeclaredMethods()) {
+                Check.due(method.getName() + " bears a public one's name", names.contains(method.getName()), false);
+            }
+        }
         for (Field field : GateNames.class.getDeclaredFields()) {
             boolean none = field.getName().equals("NONE");
             Check.due("field " + field.getName(), Modifier.isPrivate(field.getModifiers()), !none);
