@@ -96,6 +96,7 @@ public final class CallEdgesTest {
         matchedFirstOfLikeOnes();
         matchedBelowZero();
         matchedOfEightAndTwelve();
+        matchedOfEightWithPurses();
         matchedAsOfTheLatest();
         wantOfNone();
         wantWithout();
@@ -118,6 +119,7 @@ public final class CallEdgesTest {
         restsByNone();
         restsButHisOwn();
         restsOfHighPrices();
+        restsOfEightAndTwelve();
     }
 
     private static void town() {
@@ -872,6 +874,21 @@ public final class CallEdgesTest {
         due("23: the eighth", x.want(3, 0, 0), 1);
     }
 
+    private static void matchedOfEightWithPurses() {
+        StringBuilder text = new StringBuilder();
+        for (char c = 'a'; c <= 'h'; c++) {
+            text.append("man ").append(c).append(" purse ").append((c - 'a') % 4).append(";comes ").append(c);
+            text.append(" 0 1 1;brings ").append(c).append(" 0 ").append(1 + c - 'a').append(';');
+        }
+        GateNames x = Check.with(text + FOUR_MORE);
+        matched(x, 0, -1, 36, 1);
+        matched(x, 0, 3, 15, 1);
+        matchedAs(x, -1, -1, -1, 7, -1, -1, -1, 6);
+        matched(x, 0, 0, 15, 1);
+        matchedAs(x, 6, -1, -1, -1, 7);
+        Check.dueThrow("21: purse 4", () -> x.matched(0, 4, 0));
+    }
+
     private static void matchedAsOfTheLatest() {
         GateNames x = Check.with(TOWN);
         for (int m = -1; m < 9; m++) {
@@ -1128,6 +1145,17 @@ public final class CallEdgesTest {
         x.give(0, 1);
         due("29: 254 are too few", rests(x, 0, 255), 0);
         due("29: 254 are enough", rests(x, 0, 254), 1);
+    }
+
+    private static void restsOfEightAndTwelve() {
+        GateNames x = Check.with(allCome(FOUR_MORE) + "brings l 0 9;");
+        for (int m = 0; m < 8; m++) {
+            due("11", x.give(m, 11 - m), 0);
+        }
+        due("29: all eight", rests(x, 0, 0, 0, 0, 0, 0, 0, 0, 0, 0, 0, 9), 1);
+        due("29: all but one rest", rests(x, 0, 0, 0, 0, 0, 0, 0, 0, 0, 0, 0, 10), 0);
+        due("29: one alone rests", rests(x, 0, 0, 0, 0, 0, 0, 0, 0, 0, 0, 0, 8), 0);
+        due("29: the last one", rests(x, 0, 0, 0, 0, 1, 0, 0, 0, 0, 0, 0, 9), 0);
     }
 
     // ---- promises 27, 28, 33, 34: who is in town

@@ -31,6 +31,8 @@ public final class TextEdgesTest {
         endFirstBytesAlone();
         endHasNotSoMany();
         endBelowZero();
+        endWithinAToken();
+        tokensUpToTheTapesEnd();
         tapeIsEmptyThen();
     }
 
@@ -212,6 +214,49 @@ public final class TextEdgesTest {
         Check.due("3: the least", x.end(Integer.MIN_VALUE), false);
         due("3: it stays", x.count(9), 7);
         due("3: it stays", x.town(), 1);
+    }
+
+    private static int cut(String text, int n) {
+        GateNames x = new GateNames();
+        Check.feed(x, text);
+        Check.due("3: end", x.end(n), true);
+        return 10 * x.town() - x.fault();
+    }
+
+    /** What was fed behind is no more read, though a TOKEN went on there. */
+    private static void endWithinAToken() {
+        due("3: within a NAME", cut("name abcdef;", 7), -81);
+        due("3: within a WORD", cut("name", 3), -11);
+        due("3: within a NUMBER", cut("man a purse 22;", 13), -141);
+        due("3: behind a WORD", cut("name abcdefg;", 11), -121);
+        due("3: ahead of ;", cut("name a;", 6), -71);
+        due("3: ahead of a FAULT", cut("name a;!", 7), 10);
+        due("3: within blanks", cut("name a;   !", 9), 10);
+        GateNames x = new GateNames();
+        Check.town(x, "man a;man b;comes a 0 1 1;");
+        Check.feed(x, "man a;com");
+        due("4: what an older text had there", x.town(), -1 - 6);
+        Check.feed(x, "man a;comes");
+        due("4: what an older text had there", x.town(), -1 - 11);
+        Check.sights(x, "!");
+        Check.town(x, "man a;man b;");
+        Check.feed(x, "b is ab;");
+        x.end(6);
+        due("35: within a MAN", x.sights(), -1 - 6);
+        due("5", x.fault(), 1);
+    }
+
+    private static void tokensUpToTheTapesEnd() {
+        Told.bad("a".repeat(940), 0, 1);
+        Told.bad("0".repeat(940), 0, 1);
+        Told.bad("a".repeat(900), 0, 1);
+        Told.bad("name a;" + " ".repeat(892) + "name".repeat(10), 899, 1);
+        Told.bad("name a;" + " ".repeat(892) + "name" + " ".repeat(36) + "a", 900, 1);
+        Told.bad("name a;" + " ".repeat(932) + "b", 900, 1);
+        Told.bad(";".repeat(940), 0, 1);
+        Told.badSights("a".repeat(940), 0, 1);
+        Told.badSights(" ".repeat(299) + "b".repeat(641), 299, 1);
+        Told.badSights(" ".repeat(939) + "b", 300, 1);
     }
 
     private static void tapeIsEmptyThen() {
