@@ -286,6 +286,13 @@ public final class TextEdgesTest {
         Told.marked("name !abcdefg;", 1);
         Told.marked("name !abcdefgh;", 1);
         Told.marked("!namenam a;", 1);
+        // a seventh letter ahead of six, whatever it is
+        for (char c = 'a'; c <= 'z'; c++) {
+            Told.marked("name a;!" + c + "brings a 0 1;", 1);
+            Told.marked("name abcdef;name !" + c + "abcdef;", 1);
+            Told.marked("name abcdef;brings !" + c + "abcdef 0 1;", 1);
+            Told.marked("name a;brings a 0 1;!" + c + c + "brings a 0 1;", 1);
+        }
     }
 
     private static void smallLettersAlone() {
